@@ -529,7 +529,8 @@ public final class GoldTurnsBack {
     }
 
     private boolean isWholeBehind(Coin c, int n) {
-        return theRule().isWhole(c, c.ageBehind(n), today + n);
+        int age = c.ageBehind(n);
+        return age < theRule().turnsOf(c, age, today + n);
     }
 
     private int worthBehind(Coin c, int n) {
@@ -819,7 +820,8 @@ public final class GoldTurnsBack {
         int z = seed;
         for (int i = 0; i < coinCount; i++) {
             z = nextDraw(z);
-            if (all[i].owner == owner && theRule().isWhole(all[i], drawnAge(z), today)) {
+            int age = drawnAge(z);
+            if (all[i].owner == owner && age < theRule().turnsOf(all[i], age, today)) {
                 whole++;
             }
         }
@@ -928,10 +930,6 @@ public final class GoldTurnsBack {
             this.stack = new int[steps.length];
         }
 
-        boolean isWhole(Coin c, int age, int day) {
-            return age < turnsOf(c, age, day);
-        }
-
         int worthOf(Coin c, int age, int day) {
             int turns = turnsOf(c, age, day);
             if (age < turns) {
@@ -1013,7 +1011,7 @@ public final class GoldTurnsBack {
                     stack[top] = step >= 0 ? step : named(step, c, age, day);
                     top++;
                 } else if (step == Tape.NOT && top > 0) {
-                    stack[top - 1] = truth(stack[top - 1] == 0);
+                    stack[top - 1] = stack[top - 1] == 0 ? 1 : 0;
                 } else if (step == Tape.NEGATED && top > 0) {
                     stack[top - 1] = -stack[top - 1];
                 } else if (top > 1) {
@@ -1044,13 +1042,13 @@ public final class GoldTurnsBack {
         private static int joined(int joint, int a, int b) {
             switch (joint) {
                 case Tape.OR:
-                    return truth(a != 0 || b != 0);
+                    return a != 0 || b != 0 ? 1 : 0;
                 case Tape.AND:
-                    return truth(a != 0 && b != 0);
+                    return a != 0 && b != 0 ? 1 : 0;
                 case Tape.LESS:
-                    return truth(a < b);
+                    return a < b ? 1 : 0;
                 case Tape.EQUAL:
-                    return truth(a == b);
+                    return a == b ? 1 : 0;
                 case Tape.PLUS:
                     return a + b;
                 case Tape.MINUS:
@@ -1058,10 +1056,6 @@ public final class GoldTurnsBack {
                 default:
                     return a * b;
             }
-        }
-
-        private static int truth(boolean is) {
-            return is ? 1 : 0;
         }
     }
 
@@ -1074,7 +1068,7 @@ public final class GoldTurnsBack {
         static final int LESS = -13, EQUAL = -14, PLUS = -15, MINUS = -16, TIMES = -17, NEGATED = -18;
         static final int OPENS = -19, CLOSES = -20, STOPS = -21;
         static final int ENDS = -22, NO_TOKEN = -23;
-        static final int MOST_DIGITS = 4, MOST_OPEN = 5;
+        static final int MOST_DIGITS = 4, MOST_OPEN = 5, COMPARE_LEVEL = 2, LAST_LEVEL = 4;
 
         private final int[] bytes = new int[MOST_BYTES];
         int size;
@@ -1111,7 +1105,7 @@ public final class GoldTurnsBack {
                 return false;
             }
             advance();
-            if (!readOr(0) || token != STOPS) {
+            if (!readLevel(0, 0) || token != STOPS) {
                 return false;
             }
             advance();
@@ -1119,78 +1113,26 @@ public final class GoldTurnsBack {
             return true;
         }
 
-        private boolean readOr(int open) {
-            if (!readAnd(open)) {
+        /** Reads what the joints of a level bind, the loosest being level 0; behind the last level stands a ONE. */
+        private boolean readLevel(int level, int open) {
+            if (level > LAST_LEVEL) {
+                return readOne(open);
+            }
+            if (level == COMPARE_LEVEL && token == NOT) {
+                return opensOneMore(open) && readLevel(COMPARE_LEVEL, open + 1) && put(NOT);
+            }
+            if (!readLevel(level + 1, open)) {
                 return false;
             }
-            for (int i = 0; i < MOST_BYTES && token == OR; i++) {
-                advance();
-                if (!readAnd(open)) {
-                    return false;
-                }
-                put(OR);
-            }
-            return true;
-        }
-
-        private boolean readAnd(int open) {
-            if (!readNot(open)) {
-                return false;
-            }
-            for (int i = 0; i < MOST_BYTES && token == AND; i++) {
-                advance();
-                if (!readNot(open)) {
-                    return false;
-                }
-                put(AND);
-            }
-            return true;
-        }
-
-        private boolean readNot(int open) {
-            if (token == NOT) {
-                if (open >= MOST_OPEN) {
-                    return false;
-                }
-                advance();
-                return readNot(open + 1) && put(NOT);
-            }
-            if (!readSum(open)) {
-                return false;
-            }
-            if (token == LESS || token == EQUAL) {
+            // What was compared can't be compared again; all other joints may follow one another.
+            int most = level == COMPARE_LEVEL ? 1 : MOST_BYTES;
+            for (int i = 0; i < most && levelOf(token) == level; i++) {
                 int joint = token;
                 advance();
-                return readSum(open) && put(joint);
-            }
-            return true;
-        }
-
-        private boolean readSum(int open) {
-            if (!readTerm(open)) {
-                return false;
-            }
-            for (int i = 0; i < MOST_BYTES && (token == PLUS || token == MINUS); i++) {
-                int joint = token;
-                advance();
-                if (!readTerm(open)) {
+                if (!readLevel(level + 1, open)) {
                     return false;
                 }
                 put(joint);
-            }
-            return true;
-        }
-
-        private boolean readTerm(int open) {
-            if (!readOne(open)) {
-                return false;
-            }
-            for (int i = 0; i < MOST_BYTES && token == TIMES; i++) {
-                advance();
-                if (!readOne(open)) {
-                    return false;
-                }
-                put(TIMES);
             }
             return true;
         }
@@ -1201,19 +1143,42 @@ public final class GoldTurnsBack {
                 advance();
                 return true;
             }
-            if (token != MINUS && token != OPENS || open >= MOST_OPEN) {
-                return false;
-            }
             if (token == MINUS) {
-                advance();
-                return readOne(open + 1) && put(NEGATED);
+                return opensOneMore(open) && readOne(open + 1) && put(NEGATED);
             }
-            advance();
-            if (!readOr(open + 1) || token != CLOSES) {
+            if (token != OPENS || !opensOneMore(open) || !readLevel(0, open + 1) || token != CLOSES) {
                 return false;
             }
             advance();
             return true;
+        }
+
+        /** Goes on behind a (, a not, a - ahead of a ONE, unless as many are open as may be. */
+        private boolean opensOneMore(int open) {
+            if (open >= MOST_OPEN) {
+                return false;
+            }
+            advance();
+            return true;
+        }
+
+        private static int levelOf(int joint) {
+            switch (joint) {
+                case OR:
+                    return 0;
+                case AND:
+                    return 1;
+                case LESS:
+                case EQUAL:
+                    return COMPARE_LEVEL;
+                case PLUS:
+                case MINUS:
+                    return 3;
+                case TIMES:
+                    return LAST_LEVEL;
+                default:
+                    return NONE;
+            }
         }
 
         /** Always true, so that it may stand behind what had to be read first. */
@@ -1234,33 +1199,38 @@ public final class GoldTurnsBack {
             if (at >= size) {
                 token = ENDS;
             } else if (isLetter(bytes[at])) {
-                readWord();
+                goBehindWord();
+                token = word();
             } else if (isDigit(bytes[at])) {
-                readNumber();
+                goBehindNumber();
+                token = number();
             } else {
                 token = sign(bytes[at]);
                 behind = at + 1;
             }
         }
 
-        private void readWord() {
-            int end = begins;
+        private void goBehindWord() {
             for (int i = begins; i < size && isLetter(bytes[i]); i++) {
-                end = i + 1;
+                behind = i + 1;
             }
-            behind = end;
-            token = word();
         }
 
-        private void readNumber() {
-            int end = begins;
-            int number = 0;
+        private void goBehindNumber() {
             for (int i = begins; i < size && isDigit(bytes[i]); i++) {
-                end = i + 1;
+                behind = i + 1;
+            }
+        }
+
+        private int number() {
+            if (behind - begins > MOST_DIGITS) {
+                return NO_TOKEN;
+            }
+            int number = 0;
+            for (int i = begins; i < behind; i++) {
                 number = number * 10 + bytes[i] - '0';
             }
-            behind = end;
-            token = end - begins > MOST_DIGITS ? NO_TOKEN : number;
+            return number;
         }
 
         /** The words stand in the order of their numbers, from -1 down. */

@@ -11,6 +11,9 @@ public final class BestTest {
         changed();
         changedByOwner();
         notChanged();
+        changedByTheDay();
+        byThePurseOfToday();
+        ofEight();
         wrong();
         due.end();
     }
@@ -137,6 +140,44 @@ public final class BestTest {
         Valley.coin(x, 0, 0, 5, 9, 30, 0);
         Valley.coin(x, 0, 0, 5, 9, 30, 1);
         due.are("turned ones aren't changed", change(x, 0, 1), -1, 12);
+    }
+
+    private static void changedByTheDay() {
+        GoldTurnsBack x = Valley.ruled("turns 11;gives 3*(day=10)+5*(day=20);spoils 0;");
+        Valley.coin(x, 0, 0, 6, 0, 5, 0);
+        Valley.coin(x, 0, 0, 4, 0, 0, 1);
+        due.are("on day 10", change(x, 0, 1), 1, 10);
+        x.set(0, 0, 10);
+        due.are("on day 20: by just 1", change(x, 0, 1), 1, 10);
+        x.set(2, 0, 5);
+        due.are("on day 20: no more than so", change(x, 0, 1), -1, 9);
+        x.set(0, 0, 999);
+        due.are("on day 1009", change(x, 0, 1), 1, 9);
+    }
+
+    private static void byThePurseOfToday() {
+        GoldTurnsBack x = with(5, 6);
+        x.set(4, 0, 6);
+        x.set(4, 1, 6);
+        due.are("they turn tomorrow", exact(x, 0, 11), 3, 2, 3, 11);
+        due.are("they turn tomorrow", wise(x, 0, 6, 3), 2, 0);
+        x.set(5, 1, 1);
+        due.are("they turn tomorrow", change(x, 0, 1), -1, 0);
+        x.set(4, 0, 7);
+        due.are("one has turned", exact(x, 0, 5), -1, -1, -1, -1);
+    }
+
+    private static void ofEight() {
+        GoldTurnsBack x = with(1, 2, 4, 8, 16, 32, 64, 99);
+        due.are("255 - 128 + 99", exact(x, 0, 226), 255, 8, 255, 226);
+        due.are("99", exact(x, 0, 99), 128, 1, 128, 99);
+        due.are("127", exact(x, 0, 127), 127 - 99 + 128, 4, 156, 127);
+        due.are("wise now", wise(x, 0, 99, 0), 128 - 29, 127);
+        x.set(5, 7, 3);
+        x.set(3, 7, 9);
+        due.are("the eighth of another", change(x, 0, 3), -1, 39);
+        due.is("buy of the eighth", x.buy(3, 0, 99), 1);
+        due.is("it is one's again", x.told(7, 5), 0);
     }
 
     private static void wrong() {

@@ -128,6 +128,8 @@ public final class DaysTest {
         due.is("2 is as near as 3", x.has(0, 4), 2);
         x.set(4, 3, 2);
         due.is("3 is nearer", x.has(0, 4), 3);
+        x.set(4, 2, 6);
+        due.is("2 is as near again", x.has(0, 4), 2);
     }
 
     private static void gone() {
@@ -155,6 +157,13 @@ public final class DaysTest {
         Valley.coin(x, 0, 0, 9, 1, 0, 0);
         Valley.coin(x, 0, 0, 9, 1, 0, 0);
         due.is("of six", x.has(0, 6), 27);
+        x.set(4, 5, 6);
+        due.is("of six, one of which turns tomorrow", x.has(0, 6), 27);
+        Valley.coin(x, 0, 0, 30, 1, 0, 0);
+        Valley.coin(x, 0, 0, 40, 1, 0, 0);
+        due.is("of eight", x.has(0, 6), 88);
+        due.is("rich of eight", x.has(0, 0), -48 - 28 - 8 + 27 + 70);
+        due.is("purse of eight", x.has(0, 1), 255 - 7);
     }
 
     private static void ran() {

@@ -27,7 +27,8 @@ final class Due {
     }
 
     void end() {
-        System.out.println(wrong == 0 ? asked + " answers are as due" : wrong + " of " + asked + " answers are not as due");
+        System.out.println(wrong == 0 ? asked + " answers are as due"
+                : wrong + " of " + asked + " answers are not as due");
         if (wrong != 0) {
             System.exit(1);
         }

@@ -40,8 +40,21 @@ public final class ToldTest {
         Valley.row(x, 0, 2, 0, 0);
         x.set(4, 0, 99);
         due.are("nothing left", tells(x, 0, 0), -1, 1 + 2 + 4 + 8, 1023, 1023, 100 - 17, 17, 99, 1, 1, 1);
+        leastIsMost(x);
         x.sheet(0, 0, 0);
-        due.are("nothing told", tells(x, 0, 0), -1, 63, 1023, 1023, 100, 0, 99, 1, 1, 7);
+        due.are("nothing told", tells(x, 0, 0), -1, 63, 1023, 1023, 100, 0, 99, 1, 3, 7);
+    }
+
+    private static void leastIsMost(GoldTurnsBack x) {
+        x.force(Valley.text(x, "turns 99;gives 1;spoils 1;"));
+        Valley.row(x, 1, 2, 1);
+        x.set(4, 0, 0);
+        due.is("only the age 99", x.tells(1, 0, 4), 1);
+        due.is("only the age 99", x.tells(1, 0, 5), 99);
+        Valley.row(x, 1, 2, 99);
+        due.is("only the value 99", x.tells(1, 0, 6), 1);
+        due.is("only the value 99", x.tells(1, 0, 7), 99);
+        x.force(0);
     }
 
     private static void readBackByTexts() {
@@ -246,6 +259,8 @@ public final class ToldTest {
         x.feed(2);
         due.are("counts", new long[] {x.count(0), x.count(1), x.count(2), x.count(3), x.count(4), x.count(5)},
                 3, 1, 44, 2, 2, 1);
+        x.force(0);
+        due.is("whole by the other text", x.count(1), 2);
         due.is("what", x.count(6), Valley.BAD);
         due.is("what", x.count(-1), Valley.BAD);
     }

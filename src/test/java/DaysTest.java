@@ -164,6 +164,11 @@ public final class DaysTest {
         due.is("of eight", x.has(0, 6), 88);
         due.is("rich of eight", x.has(0, 0), -48 - 28 - 8 + 27 + 70);
         due.is("purse of eight", x.has(0, 1), 255 - 7);
+        x.set(4, 0, 0);
+        x.set(2, 0, 99);
+        due.is("of eight, the first the most", x.has(0, 6), 178);
+        due.is("a day of eight", x.day(), 1);
+        due.is("the eighth is older", x.told(7, 4), 1);
     }
 
     private static void ran() {

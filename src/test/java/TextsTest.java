@@ -36,6 +36,20 @@ public final class TextsTest {
         due.is("count(4)", x.count(4), 160);
         due.is("text()", x.text(), 1);
         due.is("feed again", x.feed(32), 1);
+        endsWithTheTape("turns", 'z', 0);
+        endsWithTheTape("turns ", '7', 6);
+        endsWithTheTape("turns ", ' ', 160);
+        endsWithTheTape("turns 1", '+', 8);
+        endsWithTheTape("turns(((((1", ')', 16);
+    }
+
+    private static void endsWithTheTape(String text, char letter, int place) {
+        GoldTurnsBack x = new GoldTurnsBack();
+        Valley.feed(x, text);
+        for (int i = text.length(); i < 160; i++) {
+            x.feed(letter);
+        }
+        due.is("160 bytes of " + text + letter, x.text(), -100 - place);
     }
 
     private static void textsAreNumbered() {

@@ -144,6 +144,16 @@ public final class ToldTest {
             due.is("drawn " + seed, x.drawn(seed, 1), drawnBySetting(x, seed, 1));
         }
         due.is("ages stay", x.told(0, 4), 3);
+        x.coin(1, 9, 77);
+        x.coin(5, 9, 78);
+        due.is("drawn of eight", x.drawn(4, 0), drawnBySetting(x, 4, 0));
+        due.is("images of eight", x.image(), 8);
+        x.set(2, 7, 1);
+        due.is("back to eight", x.back(), 8);
+        due.is("the eighth as it was", x.told(7, 2), 78);
+        due.is("a true one is whole by all", x.chance(4, 20, 0, 1, 0), 1);
+        x.film(0, 7, 9);
+        due.is("coins of which it is so", x.tells(0, 0, 9), 128);
         due.is("one who has nothing", x.drawn(5, 3), 0);
         due.is("owner", x.drawn(5, 4), Valley.NO_ANSWER);
         due.is("owner", x.drawn(5, -1), Valley.NO_ANSWER);

@@ -31,6 +31,8 @@ final class BestEdges extends Edges {
             x.set(5, 0, 1);
             is("one is another's", x.exact(0, 693, 0), NONE);
             is("of that one", x.exact(1, 99, 0), 1);
+            x.set(4, 0, 6);
+            is("what turns tomorrow is whole today", x.exact(1, 99, 0), 1);
         });
         test(TERMS, "that of fewest; of like ones the least as bits; NONE.", () -> {
             GoldTurnsBack x = withValues(2, 3, 5, 1, 4, 10);
@@ -60,12 +62,16 @@ final class BestEdges extends Edges {
             is("10: 11 has turned", x.exact(0, 10, 2), 3);
             x.set(5, 0, 1);
             is("10: a 9 is another's", x.exact(0, 10, 2), 4);
+            x.set(4, 2, 6);
+            is("10: what turns tomorrow is whole today", x.exact(0, 10, 2), 4);
         });
         test(TERMS, "of like ones the fewest, then the least as bits; NONE.", () -> {
             GoldTurnsBack x = withValues(4, 6, 10, 10);
             is("9: 10 by one, the first of two", x.exact(0, 9, 2), 4);
             is("19: 20 by two", x.exact(0, 19, 2), 12);
             is("31: none", x.exact(0, 31, 2), NONE);
+            is("9 of 10, 4, 6: by one, though it is 1 as bits", withValues(10, 4, 6).exact(0, 9, 2), 1);
+            is("9 of 5, 5, 10: by one, though it is 4 as bits", withValues(5, 5, 10).exact(0, 9, 2), 4);
             is("1 of an empty purse", x.exact(1, 1, 2), NONE);
             GoldTurnsBack y = withValues(1, 4, 2, 3);
             is("5: 1 and 4 are 3 as bits, 2 and 3 are 12", y.exact(0, 5, 2), 3);
@@ -96,6 +102,9 @@ final class BestEdges extends Edges {
             is("0, yet the wage is a burden", x.wise(0, 0, 4, 0), 4);
             is("0, now", x.wise(0, 0, 0, 0), 0);
             is("nobody was paid", x.told(2, 5), 0);
+            x.set(4, 1, 6);
+            is("what turns tomorrow is whole today", x.wise(0, 20, 0, 0), 3);
+            x.set(4, 1, 3);
             x.set(0, 0, 999);
             is("behind 40 days of day 999", x.wise(0, 30, 40, 0), 1 + 2 + 4);
             is("rich then", x.wise(0, 30, 40, 1), 10);
@@ -122,9 +131,13 @@ final class BestEdges extends Edges {
             }
             coin(x, COIN, 0, 4, 0, 9, 0);
             is("7 of 0 and 0 of 3", x.change(0, 3, 0), 70);
+            is("both rich then", x.change(0, 3, 1), 13);
             is("0 of 3 and 7 of 0", x.change(3, 0, 0), 7);
+            is("both rich then", x.change(3, 0, 1), 13);
             is("7 of 0 and a true one of 1", x.change(0, 1, 0), 71);
+            is("both rich then", x.change(0, 1, 1), 6 * 5 + 4);
             is("a true one of 1 and 7 of 0", x.change(1, 0, 0), 17);
+            is("both rich then", x.change(1, 0, 1), 6 * 5 + 4);
         });
         test(TERMS, "by whose being changed (PAID both ways; WHOLE ones) both RICH, together, "
                 + "would be most behind 10 DAYS,", () -> {
@@ -142,11 +155,15 @@ final class BestEdges extends Edges {
             is("without the 8", x.change(0, 1, 1), 9 + 4 + 6);
             is("nothing is paid truly", x.told(0, 5), 0);
             is("nothing is paid truly", x.told(0, 4), 8);
+            x.set(4, 0, 13);
+            x.set(4, 3, 13);
+            is("what turns tomorrow is whole today", x.change(0, 1, 0), 3);
             GoldTurnsBack y = ruled("11", "3*(day=1009)", "0");
             coin(y, COIN, 0, 5, 0, 5, 0);
             coin(y, COIN, 0, 5, 0, 0, 1);
             y.set(0, 0, 999);
             is("on day 1009", y.change(0, 1, 0), 1);
+            is("on day 1009, both rich then", y.change(0, 1, 1), 10);
             is("on day 1009", y.change(1, 2, 1), 5);
             is("on day 1009, so", y.change(0, 2, 1), 3);
         });

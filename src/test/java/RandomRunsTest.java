@@ -4,6 +4,8 @@ import java.util.Random;
 public final class RandomRunsTest {
     private static final Due due = new Due();
     private static final int RUNS = 300, CALLS = 140;
+    /** An object's answers count up to its 512th call; one call may feed a whole tape. */
+    private static final int MOST_ASKED = 512 - 162;
     private static final int[] EDGES = {-2, -1, 0, 1, 3, 4, 5, 6, 7, 8, 9, 10, 20, 21, 39, 40, 41, 99, 100, 255, 256,
         998, 999, 1000, Integer.MAX_VALUE, Integer.MIN_VALUE};
 
@@ -11,6 +13,7 @@ public final class RandomRunsTest {
     private final GoldTurnsBack x = new GoldTurnsBack();
     private final PlainValley y = new PlainValley();
     private final String run;
+    private int asked;
 
     private RandomRunsTest(int seed) {
         random = new Random(seed);
@@ -21,7 +24,7 @@ public final class RandomRunsTest {
         for (int seed = 0; seed < RUNS; seed++) {
             RandomRunsTest r = new RandomRunsTest(seed);
             r.begin();
-            for (int call = 0; call < CALLS; call++) {
+            for (int call = 0; call < CALLS && r.asked < MOST_ASKED; call++) {
                 r.call();
             }
         }
@@ -56,6 +59,7 @@ public final class RandomRunsTest {
     }
 
     private void is(String call, long got, long want) {
+        asked++;
         due.is(run + call, got, want);
     }
 

@@ -108,7 +108,8 @@ final class RefusalEdges extends Edges {
         for (int what = 0; what < 6; what++) {
             seen.add((long) x.count(what));
         }
-        for (int c = 0; c < x.count(0); c++) {
+        int coins = x.count(0);
+        for (int c = 0; c < coins; c++) {
             for (int what = 1; what < 7; what++) {
                 seen.add((long) x.told(c, what));
             }

@@ -39,7 +39,24 @@ public final class RoomTest {
         long before = BEAN.getCurrentThreadAllocatedBytes();
         new GoldTurnsBack();
         due.holds("a new object is small", BEAN.getCurrentThreadAllocatedBytes() - before < 8000);
+        theLastCallAnswers();
         due.end();
+    }
+
+    /** An object is used for at most 512 calls: the last of them is answered as any other. */
+    private static void theLastCallAnswers() {
+        GoldTurnsBack x = new GoldTurnsBack();
+        x.coin(5, 0, 1);
+        for (int call = 2; call < 512; call++) {
+            due.is("call " + call, x.day(), 0);
+        }
+        due.is("call 512", x.told(0, 4), 510);
+        GoldTurnsBack y = new GoldTurnsBack();
+        for (int call = 1; call < 511; call++) {
+            due.is("call " + call, y.text(), -100);
+        }
+        due.is("call 511", y.feed(32), 1);
+        due.is("call 512", y.text(), -101);
     }
 
     private static void nothingIsMade(String name, IntConsumer calls) {

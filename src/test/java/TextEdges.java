@@ -71,6 +71,9 @@ final class TextEdges extends Edges {
             fault("turns valuE" + REST, 6);
             stands("turns not0and0or0" + REST);
             fault("turns 0andnot0" + REST, 7);
+            fault("turnsz 7" + REST, 0);
+            fault("turns valuez" + REST, 6);
+            fault("turns valuea" + REST, 6);
             fault("turns `" + REST, 6);
             fault("turns {" + REST, 6);
         });
@@ -340,6 +343,7 @@ final class TextEdges extends Edges {
         for (int i = 1; i < 6; i++) {
             is("a text", text(x, "turns " + i + REST), i);
         }
+        textsAreLong();
         is("texts", x.count(3), 6);
         is("a seventh", text(x, "turns 6" + REST), FULL);
         is("texts", x.count(3), 6);
@@ -348,6 +352,22 @@ final class TextEdges extends Edges {
         for (int i = 5; i > 0; i--) {
             x.force(i);
             is("each is as it was", x.told(0, 7), i);
+        }
+    }
+
+    /** As many as 512 calls can feed. */
+    private void textsAreLong() {
+        GoldTurnsBack x = valley();
+        x.coin(COIN, 0, 1);
+        for (int i = 1; i < 4; i++) {
+            String text = "turns " + "1+".repeat(60 + i) + "0;gives " + i + ";spoils 3;";
+            text += " ".repeat(160 - text.length());
+            is("its size", text.length(), 160);
+            is("a long text", text(x, text), i);
+        }
+        for (int i = 1; i < 4; i++) {
+            x.force(i);
+            are("by text " + i, answers(3, what -> x.told(0, what + 7)), 60 + i, i, 3);
         }
     }
 
@@ -388,6 +408,10 @@ final class TextEdges extends Edges {
             is("nothing of it is left", text(x, "turns 4" + REST), 2);
             x.coin(COIN, 0, 1);
             is("the rule is what it was", x.told(0, 7), 7);
+            is("five bytes", text(x, "turns"), -105);
+            is("of four bytes the fifth that stood there is none", text(x, "turn"), -100);
+            is("a number", text(x, "turns 1234;gives 0;spoils 12345"), -100 - 26);
+            is("of it as much as was fed", text(x, "turns 1;gives 0;spoils (1 + 123"), -100 - 31);
             x.force(1);
             is("text 1", x.told(0, 7), 3);
             x.force(2);

@@ -176,13 +176,18 @@ public final class ToldTest {
         }
     }
 
-    private static void chances() {
+    private static GoldTurnsBack sixCoins() {
         GoldTurnsBack x = new GoldTurnsBack();
         for (int i = 0; i < 6; i++) {
             Valley.coin(x, 0, i, 10 + i, 1 + i, 3, i % 2);
         }
+        return x;
+    }
+
+    private static void chances() {
         for (int seed : new int[] {0, 12, Integer.MAX_VALUE - 3}) {
             for (int k = 0; k <= 4; k++) {
+                GoldTurnsBack x = sixCoins();
                 int hits = 0;
                 for (int m = 1; m <= 20; m++) {
                     x.image();
@@ -197,6 +202,7 @@ public final class ToldTest {
                 }
             }
         }
+        GoldTurnsBack x = sixCoins();
         due.is("none", x.chance(9, 20, 1, 8, 0), 0);
         due.is("none of 1", x.chance(9, 20, 1, 8, 1), 1);
         due.is("all", x.chance(9, 20, 2, 0, 0), 1);

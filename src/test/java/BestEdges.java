@@ -138,6 +138,16 @@ final class BestEdges extends Edges {
             is("both rich then", x.change(0, 1, 1), 6 * 5 + 4);
             is("a true one of 1 and 7 of 0", x.change(1, 0, 0), 17);
             is("both rich then", x.change(1, 0, 1), 6 * 5 + 4);
+            GoldTurnsBack y = ruled("14", "0", "0");
+            for (int i = 0; i < 5; i++) {
+                coin(y, TRUE, 0, 5, 0, 0, 2);
+            }
+            coin(y, COIN, 0, 9, 0, 8, 0);
+            coin(y, COIN, 0, 4, 0, 9, 1);
+            is("5 of 0 and 6 of 1", y.change(0, 1, 0), 56);
+            is("both rich then", y.change(0, 1, 1), 13);
+            is("6 of 1 and 5 of 0", y.change(1, 0, 0), 65);
+            is("both rich then", y.change(1, 0, 1), 13);
         });
         test(TERMS, "by whose being changed (PAID both ways; WHOLE ones) both RICH, together, "
                 + "would be most behind 10 DAYS,", () -> {

@@ -1119,7 +1119,7 @@ public final class GoldTurnsBack {
                 return readOne(open);
             }
             if (level == COMPARE_LEVEL && token == NOT) {
-                return opensOneMore(open) && readLevel(COMPARE_LEVEL, open + 1) && put(NOT);
+                return open < MOST_OPEN && advance() && readLevel(COMPARE_LEVEL, open + 1) && put(NOT);
             }
             if (!readLevel(level + 1, open)) {
                 return false;
@@ -1139,27 +1139,13 @@ public final class GoldTurnsBack {
 
         private boolean readOne(int open) {
             if (token >= DAY_NAME) {
-                put(token);
-                advance();
-                return true;
+                return put(token) && advance();
             }
             if (token == MINUS) {
-                return opensOneMore(open) && readOne(open + 1) && put(NEGATED);
+                return open < MOST_OPEN && advance() && readOne(open + 1) && put(NEGATED);
             }
-            if (token != OPENS || !opensOneMore(open) || !readLevel(0, open + 1) || token != CLOSES) {
-                return false;
-            }
-            advance();
-            return true;
-        }
-
-        /** Goes on behind a (, a not, a - ahead of a ONE, unless as many are open as may be. */
-        private boolean opensOneMore(int open) {
-            if (open >= MOST_OPEN) {
-                return false;
-            }
-            advance();
-            return true;
+            return token == OPENS && open < MOST_OPEN && advance() && readLevel(0, open + 1)
+                    && token == CLOSES && advance();
         }
 
         private static int levelOf(int joint) {
@@ -1190,7 +1176,8 @@ public final class GoldTurnsBack {
             return true;
         }
 
-        private void advance() {
+        /** Always true, as put(). */
+        private boolean advance() {
             int at = behind;
             for (int i = at; i < size && (bytes[i] == ' ' || bytes[i] == '\n'); i++) {
                 at = i + 1;
@@ -1198,26 +1185,22 @@ public final class GoldTurnsBack {
             begins = at;
             if (at >= size) {
                 token = ENDS;
-            } else if (isLetter(bytes[at])) {
-                goBehindWord();
+            } else if (isBetween(bytes[at], 'a', 'z')) {
+                goBehindAll('a', 'z');
                 token = word();
-            } else if (isDigit(bytes[at])) {
-                goBehindNumber();
+            } else if (isBetween(bytes[at], '0', '9')) {
+                goBehindAll('0', '9');
                 token = number();
             } else {
                 token = sign(bytes[at]);
                 behind = at + 1;
             }
+            return true;
         }
 
-        private void goBehindWord() {
-            for (int i = begins; i < size && isLetter(bytes[i]); i++) {
-                behind = i + 1;
-            }
-        }
-
-        private void goBehindNumber() {
-            for (int i = begins; i < size && isDigit(bytes[i]); i++) {
+        /** Goes behind all bytes from least to most that stand here side by side: a token is as long as can be. */
+        private void goBehindAll(char least, char most) {
+            for (int i = begins; i < size && bytes[i] >= least && bytes[i] <= most; i++) {
                 behind = i + 1;
             }
         }
@@ -1275,14 +1258,6 @@ public final class GoldTurnsBack {
                 default:
                     return NO_TOKEN;
             }
-        }
-
-        private static boolean isLetter(int letter) {
-            return letter >= 'a' && letter <= 'z';
-        }
-
-        private static boolean isDigit(int letter) {
-            return letter >= '0' && letter <= '9';
         }
     }
 

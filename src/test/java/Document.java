@@ -31,12 +31,24 @@ final class Document {
         }
     }
 
-    private static String words() {
+    static String words() {
         try {
             return Files.readString(PLACE, StandardCharsets.UTF_8);
         } catch (IOException e) {
             throw new UncheckedIOException(e);
         }
+    }
+
+    /** The groups of calls by the names that the interface heads them by, in its order: a name, then its calls. */
+    static List<List<String>> groups() {
+        List<List<String>> groups = new ArrayList<>();
+        Matcher m = Pattern.compile("(?m)^Ahead of the calls (.*) the interface says: ---- (.*)\\.$").matcher(words());
+        while (m.find()) {
+            List<String> group = new ArrayList<>(List.of(m.group(2)));
+            group.addAll(List.of(m.group(1).replace("`", "").split(", ")));
+            groups.add(group);
+        }
+        return groups;
     }
 
     /** Without the fences, the declaration that a promise begins with, and what the interface only heads calls by. */

@@ -6,6 +6,7 @@ import java.lang.reflect.Modifier;
 import java.nio.charset.StandardCharsets;
 import java.nio.file.Files;
 import java.nio.file.Path;
+import java.util.List;
 import java.util.Set;
 import java.util.TreeSet;
 import java.util.regex.Matcher;
@@ -27,8 +28,40 @@ public final class FaceTest {
         theClass();
         theMethods();
         theConstants();
-        theSource(Files.readString(SOURCE, StandardCharsets.US_ASCII));
+        String source = Files.readString(SOURCE, StandardCharsets.US_ASCII);
+        theDocumentsFace(source);
+        theGroups(source);
+        theSource(source);
         due.end();
+    }
+
+    /** Each line of the document's face stands in the source word by word, the names of what is handed over too. */
+    private static void theDocumentsFace(String source) {
+        Matcher face = Pattern.compile("(?s)## The public face\\s+```java\n(.*?)\n\\}\n```").matcher(Document.words());
+        due.holds("the document has a face", face.find());
+        int methods = 0;
+        for (String line : face.group(1).split("\n")) {
+            boolean called = line.endsWith(");");
+            methods += line.matches(" +public (int|long) \\w+\\(.*") ? 1 : 0;
+            due.holds(line.trim(), source.contains(called ? line.replace(");", ") {") : line));
+        }
+        due.is("methods of the document", methods, METHODS.length);
+    }
+
+    /** The calls stand in the document's order, each group under its name. */
+    private static void theGroups(String source) {
+        int at = 0;
+        for (List<String> group : Document.groups()) {
+            at = source.indexOf("    // ---- " + group.get(0) + "\n", at);
+            due.holds("---- " + group.get(0), at >= 0);
+            for (String call : group.subList(1, group.size())) {
+                Matcher m = Pattern.compile("    public (int|long) " + call + "\\(").matcher(source);
+                boolean found = m.find(Math.max(0, at));
+                due.holds(call + " stands behind what is ahead of it", found);
+                at = found ? m.end() : at;
+            }
+        }
+        due.is("groups", Document.groups().size(), 6);
     }
 
     private static void theClass() {

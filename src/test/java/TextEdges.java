@@ -76,6 +76,8 @@ final class TextEdges extends Edges {
             fault("turns valuea" + REST, 6);
             fault("turns `" + REST, 6);
             fault("turns {" + REST, 6);
+            fault("turns value`" + REST, 11);
+            fault("turns value{" + REST, 11);
         });
         test(TERMS, "NUMBERS (digits, 4 at most),", () -> {
             comes("9999=9998+1", 1);
@@ -282,6 +284,9 @@ final class TextEdges extends Edges {
             fault("turns 7;gives 1;spoils 1;$", 25);
             fault("turns 7;gives 1;spoils 1; " + (char) 255, 26);
             fault("turns 7" + (char) 0, 7);
+            fault("turns 7/", 7);
+            fault("turns 7:", 7);
+            fault("turns 1234:", 10);
         });
         test(TERMS, "a WORD that is neither KEY nor NAME,", () -> {
             fault("turn 7;", 0);
